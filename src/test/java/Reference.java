@@ -52,8 +52,22 @@ final class Reference {
         return (shift + j) % 16;
     }
 
-    /** The whole polynomial product first, then the long division by z^4+z+1. */
+    private static final int[] PRODUCTS = new int[256];
+
+    static {
+        for (int x = 0; x < 16; x++) {
+            for (int y = 0; y < 16; y++) {
+                PRODUCTS[x * 16 + y] = longProduct(x, y);
+            }
+        }
+    }
+
     static int fieldMul(int x, int y) {
+        return PRODUCTS[x * 16 + y];
+    }
+
+    /** The whole polynomial product first, then the long division by z^4+z+1. */
+    private static int longProduct(int x, int y) {
         int product = 0;
         for (int i = 0; i < 4; i++) {
             for (int k = 0; k < 4; k++) {
