@@ -42,14 +42,11 @@ public final class CipherTest {
     private static void everyReceivedWord(String name, GoppaCrypt x, Reference r) {
         int failures = 0;
         for (int w = 0; w < 4096; w++) {
-            int errors = r.errorsOf[r.syndrome[w]];
-            int weight = errors == -1 ? -1 : Integer.bitCount(errors);
-            int message = errors == -1 ? -1 : r.extract(w ^ errors);
-            failures += errors == -1 ? 1 : 0;
+            failures += r.foundIn(w) == -1 ? 1 : 0;
             due.is("setReceived", w, name, x.setReceived(w) ? 1 : 0, 1);
-            due.is("decrypt() after setReceived", w, name, x.decrypt(), weight);
-            due.is("foundErrors() after setReceived", w, name, x.foundErrors(), errors);
-            due.is("decodedMessage() after setReceived", w, name, x.decodedMessage(), message);
+            due.is("decrypt() after setReceived", w, name, x.decrypt(), r.weightIn(w));
+            due.is("foundErrors() after setReceived", w, name, x.foundErrors(), r.foundIn(w));
+            due.is("decodedMessage() after setReceived", w, name, x.decodedMessage(), r.decodedFrom(w));
         }
         due.is("words that fail" + name, failures, 4096 - 79 * r.code.size());
     }
@@ -116,8 +113,7 @@ public final class CipherTest {
             x.setReceived(w);
             int first = x.decrypt();
             due.is("decrypt() of " + w + " again", x.decrypt(), first);
-            int errors = r.errorsOf[r.syndrome[w]];
-            results("after decrypt() of " + w + " twice", x, errors == -1 ? -1 : r.extract(w ^ errors), errors);
+            results("after decrypt() of " + w + " twice", x, r.decodedFrom(w), r.foundIn(w));
             due.is("encrypt() after decrypt() of " + w, x.encrypt(), r.codewords[10] ^ 1028);
         }
     }

@@ -9,7 +9,32 @@ final class Inputs {
         4096, 4097, 65536, 1 << 20, 1 << 30, Integer.MAX_VALUE - 1, Integer.MAX_VALUE
     };
 
+    static final int MIN = Integer.MIN_VALUE;
+    static final int MAX = Integer.MAX_VALUE;
+
+    /** Arguments of the objects that stand for all where a test does not go over every code. */
+    static final int[][] OBJECTS = {{0, 2}, {255, 15}, {100, 7}, {24, 0}, {180, 11}};
+
     private Inputs() {
+    }
+
+    static List<Reference> references() {
+        List<Reference> references = new ArrayList<>();
+        for (int[] object : OBJECTS) {
+            references.add(new Reference(object[0], object[1]));
+        }
+        return references;
+    }
+
+    /** The 79 words of weight at most 2. */
+    static List<Integer> errorMasks() {
+        List<Integer> masks = new ArrayList<>();
+        for (int word = 0; word < 4096; word++) {
+            if (Integer.bitCount(word) <= 2) {
+                masks.add(word);
+            }
+        }
+        return masks;
     }
 
     /** Every polynomial without a root: each stands for itself when it is the first candidate. */

@@ -91,9 +91,9 @@ public final class MixedRunsTest {
     }
 
     private static void decrypt(Model s) {
-        s.found = s.r.errorsOf[s.r.syndrome[s.received]];
-        s.decoded = s.found == -1 ? -1 : s.r.extract(s.received ^ s.found);
-        due.is("decrypt()", s.x.decrypt(), s.found == -1 ? -1 : Integer.bitCount(s.found));
+        s.found = s.r.foundIn(s.received);
+        s.decoded = s.r.decodedFrom(s.received);
+        due.is("decrypt()", s.x.decrypt(), s.r.weightIn(s.received));
     }
 
     private static void roundTrip(Model s) {

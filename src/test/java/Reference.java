@@ -40,6 +40,15 @@ final class Reference {
         findErrors();
     }
 
+    /** A new object of the class, with the code that this reference is of. */
+    GoppaCrypt fresh() {
+        return new GoppaCrypt(goppaPoly(), shift);
+    }
+
+    String name() {
+        return " of (" + goppaPoly() + ", " + shift + ")";
+    }
+
     int goppaPoly() {
         return a * 16 + b;
     }
@@ -104,6 +113,28 @@ final class Reference {
             m += ((word >> infoPositions.get(i)) & 1) << i;
         }
         return m;
+    }
+
+    /** What decrypt() finds in a received word: the errors, or -1. */
+    int foundIn(int word) {
+        return errorsOf[syndrome[word]];
+    }
+
+    int decodedFrom(int word) {
+        return foundIn(word) == -1 ? -1 : extract(word ^ foundIn(word));
+    }
+
+    int weightIn(int word) {
+        return foundIn(word) == -1 ? -1 : Integer.bitCount(foundIn(word));
+    }
+
+    /** The least word that decrypt() fails on. */
+    int farWord() {
+        int word = 0;
+        while (foundIn(word) != -1) {
+            word++;
+        }
+        return word;
     }
 
     private void findInversesAndRoots() {

@@ -1,10 +1,9 @@
 /** Promises 11, 12 and 14: setting the message, the error mask and the received word. */
 public final class SettersTest {
     private static final Due due = new Due("SettersTest");
-    private static final int[][] OBJECTS = {{0, 2}, {255, 15}, {100, 7}, {24, 0}, {180, 11}};
 
     public static void main(String[] args) {
-        for (int[] object : OBJECTS) {
+        for (int[] object : Inputs.OBJECTS) {
             Reference r = new Reference(object[0], object[1]);
             messages(object, r);
             errorMasks(object, r);
@@ -82,10 +81,8 @@ public final class SettersTest {
         int now = accepted ? w : current;
         due.is("setReceived(" + w + ")" + name, x.setReceived(w), accepted);
         x.decrypt();
-        int want = r.errorsOf[r.syndrome[now]];
-        due.is("foundErrors() after setReceived(" + w + ")" + name, x.foundErrors(), want);
-        int wantMessage = want == -1 ? -1 : r.extract(now ^ want);
-        due.is("decodedMessage() after setReceived(" + w + ")" + name, x.decodedMessage(), wantMessage);
+        due.is("foundErrors() after setReceived(" + w + ")" + name, x.foundErrors(), r.foundIn(now));
+        due.is("decodedMessage() after setReceived(" + w + ")" + name, x.decodedMessage(), r.decodedFrom(now));
         return now;
     }
 
@@ -114,7 +111,7 @@ public final class SettersTest {
             due.is("foundErrors()" + name, x.foundErrors(), 33);
             due.is("decodedMessage()" + name, x.decodedMessage(), 13);
             x.decrypt();
-            due.is("foundErrors() then" + name, x.foundErrors(), r.errorsOf[r.syndrome[received]]);
+            due.is("foundErrors() then" + name, x.foundErrors(), r.foundIn(received));
             due.is("encrypt()" + name, x.encrypt(), r.codewords[message] ^ errors);
         }
     }
