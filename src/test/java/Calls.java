@@ -64,19 +64,15 @@ final class Calls {
     /** From each state, the method's calls at their edges leave all five parts and all that is derived. */
     static void changeNothing(Due due, String method) {
         for (State state : State.all()) {
+            List<Integer> derived = Derived.due(state.r());
             for (Call call : of(method)) {
-                changesNothing(due, state, call);
+                GoppaCrypt x = state.object();
+                call.made().accept(x);
+                due.holds(call.text() + " leaves all that is derived" + state.name(), Derived.asked(x).equals(derived));
+                GoppaCrypt y = state.object();
+                call.made().accept(y);
+                state.shown(due, "after " + call.text() + state.name(), y);
             }
         }
-    }
-
-    private static void changesNothing(Due due, State state, Call call) {
-        GoppaCrypt x = state.object();
-        call.made().accept(x);
-        state.shown(due, "after " + call.text() + state.name(), x);
-        GoppaCrypt y = state.object();
-        List<Integer> before = Derived.asked(y);
-        call.made().accept(y);
-        due.holds(call.text() + " leaves what is derived" + state.name(), Derived.asked(y).equals(before));
     }
 }

@@ -9,55 +9,66 @@ public final class CipherEdgesTest {
     private static final int[] MASKS = {0, 1, 2048, 3, 3072, 2049};
 
     public static void main(String[] args) {
-        encryptOnFreshObject();
-        encryptAtTheEdges();
-        encryptAgain();
-        encryptKeepsTheRest();
-        decryptOnFreshObject();
-        decryptAnswersTheWeight();
-        decodedMessageInRange();
-        decryptFails();
-        decryptKeepsTheRest();
-        resultsAreOverwritten();
-        roundTripsOnFreshObjects();
-        roundTripsAfterOtherCalls();
-        roundTripsWithoutSetters();
-        noResultsBeforeDecrypt();
-        noResultsAfterFailure();
-        resultsStay();
-        askingForResultsChangesNothing();
+        due.sentence("Promise 13", "encrypt() is never refused (on a fresh object, and in every state)",
+            CipherEdgesTest::encryptOnFreshObject);
+        due.sentence("Promise 13", "It sets received word = E(message) XOR error mask and answers the new "
+            + "received word, a value in 0..4095", CipherEdgesTest::encryptAtTheEdges);
+        due.sentence("Promise 13", "Calling it again without changing the message or the error mask answers "
+            + "the same word", CipherEdgesTest::encryptAgain);
+        due.sentence("Promise 13", "The message, the error mask, the decoded message and the found errors "
+            + "keep their values", CipherEdgesTest::encryptKeepsTheRest);
+        due.sentence("Promise 15", "On a fresh object the received word is 0, so decrypt() answers 0 and sets "
+            + "found errors = 0 and decoded message = 0", CipherEdgesTest::decryptOnFreshObject);
+        due.sentence("Promise 15", "It answers the weight of e (0, 1 or 2)",
+            CipherEdgesTest::decryptAnswersTheWeight);
+        due.sentence("Promise 15", "The decoded message then lies in 0..2^K-1",
+            CipherEdgesTest::decodedMessageInRange);
+        due.sentence("Promise 15", "Otherwise it sets found errors = -1, sets decoded message = -1, and "
+            + "answers -1", CipherEdgesTest::decryptFails);
+        due.sentence("Promise 15", "The message, the error mask and the received word never change here",
+            CipherEdgesTest::decryptKeepsTheRest);
+        due.sentence("Promise 15", "Each call overwrites the results of any earlier decrypt()",
+            CipherEdgesTest::resultsAreOverwritten);
+        due.sentence("Promise 15", "So every message 0..2^K-1 combined with every error mask of weight at "
+            + "most 2 is encrypted and then exactly recovered, together with the error positions",
+            CipherEdgesTest::roundTripsOnFreshObjects);
+        due.sentence("Promise 15", "Round trip: take any sequence of calls on a fresh object",
+            CipherEdgesTest::roundTripsAfterOtherCalls);
+        due.sentence("Promise 15", "the values set by the last accepted setMessage and setErrors, or the "
+            + "initial 0 if there was none", CipherEdgesTest::roundTripsWithoutSetters);
+        due.sentence("Promise 16", "Both answer -1 before any decrypt()", CipherEdgesTest::noResultsBeforeDecrypt);
+        due.sentence("Promise 16", "and after a failed one", CipherEdgesTest::noResultsAfterFailure);
+        due.sentence("Promise 16", "After a successful decrypt(), they answer the values that call set, until "
+            + "the next decrypt(). No call other than decrypt() changes these values", CipherEdgesTest::resultsStay);
+        due.sentence("Promise 16", "Neither changes anything", CipherEdgesTest::askingForResultsChangesNothing);
         due.end();
     }
 
     private static void encryptOnFreshObject() {
-        due.sentence("Promise 13", "encrypt() is never refused (on a fresh object, and in every state)");
         for (Reference r : REFERENCES) {
             due.is("encrypt() on a fresh object" + r.name(), r.fresh().encrypt(), 0);
         }
         for (State state : State.all()) {
-            due.is("encrypt()" + state.name(), state.object().encrypt(), state.r().codewords[state.message()] ^ state.errors());
+            due.is("encrypt()" + state.name(), state.object().encrypt(), state.encrypted());
         }
     }
 
     private static void encryptAtTheEdges() {
-        due.sentence("Promise 13", "It sets received word = E(message) XOR error mask and answers the new received "
-            + "word, a value in 0..4095");
         for (Reference r : REFERENCES) {
             for (int message : new int[] {0, GREATEST}) {
                 for (int mask : MASKS) {
                     State set = State.afterSuccess(r).withMessage(message).withErrors(mask);
                     GoppaCrypt x = set.object();
                     int word = x.encrypt();
-                    due.is("encrypt()" + set.name(), word, r.codewords[message] ^ mask);
+                    due.is("encrypt()" + set.name(), word, set.encrypted());
                     due.holds("encrypt()" + set.name() + " is in 0..4095, which", word >= 0 && word <= 4095);
-                    set.withReceived(r.codewords[message] ^ mask).shown(due, "after encrypt()" + set.name(), x);
+                    set.withReceived(set.encrypted()).shown(due, "after encrypt()" + set.name(), x);
                 }
             }
         }
     }
 
     private static void encryptAgain() {
-        due.sentence("Promise 13", "Calling it again without changing the message or the error mask answers the same word");
         for (State state : State.all()) {
             GoppaCrypt x = state.object();
             int word = x.encrypt();
@@ -73,18 +84,14 @@ public final class CipherEdgesTest {
     }
 
     private static void encryptKeepsTheRest() {
-        due.sentence("Promise 13", "The message, the error mask, the decoded message and the found errors keep their values");
         for (State state : State.all()) {
             GoppaCrypt x = state.object();
             x.encrypt();
-            int word = state.r().codewords[state.message()] ^ state.errors();
-            state.withReceived(word).shown(due, "after encrypt()" + state.name(), x);
+            state.withReceived(state.encrypted()).shown(due, "after encrypt()" + state.name(), x);
         }
     }
 
     private static void decryptOnFreshObject() {
-        due.sentence("Promise 15", "On a fresh object the received word is 0, so decrypt() answers 0 and sets found "
-            + "errors = 0 and decoded message = 0");
         for (Reference r : REFERENCES) {
             decrypted(r, r.fresh(), " on a fresh object", 0, 0, 0);
         }
@@ -97,7 +104,6 @@ public final class CipherEdgesTest {
     }
 
     private static void decryptAnswersTheWeight() {
-        due.sentence("Promise 15", "It answers the weight of e (0, 1 or 2)");
         for (Reference r : REFERENCES) {
             for (int codeword : r.code) {
                 for (int mask : MASKS) {
@@ -110,7 +116,6 @@ public final class CipherEdgesTest {
     }
 
     private static void decodedMessageInRange() {
-        due.sentence("Promise 15", "The decoded message then lies in 0..2^K-1");
         for (Reference r : REFERENCES) {
             int seen = 0;
             GoppaCrypt x = r.fresh();
@@ -128,7 +133,6 @@ public final class CipherEdgesTest {
     }
 
     private static void decryptFails() {
-        due.sentence("Promise 15", "Otherwise it sets found errors = -1, sets decoded message = -1, and answers -1");
         for (Reference r : REFERENCES) {
             int failures = 0;
             for (int w = 0; w < 4096; w++) {
@@ -143,7 +147,6 @@ public final class CipherEdgesTest {
     }
 
     private static void decryptKeepsTheRest() {
-        due.sentence("Promise 15", "The message, the error mask and the received word never change here");
         for (State state : State.all()) {
             Reference r = state.r();
             for (int mask : MASKS) {
@@ -161,7 +164,6 @@ public final class CipherEdgesTest {
     }
 
     private static void resultsAreOverwritten() {
-        due.sentence("Promise 15", "Each call overwrites the results of any earlier decrypt()");
         for (Reference r : REFERENCES) {
             GoppaCrypt x = r.fresh();
             x.setReceived(r.codewords[9] ^ 2049);
@@ -188,8 +190,6 @@ public final class CipherEdgesTest {
     }
 
     private static void roundTripsOnFreshObjects() {
-        due.sentence("Promise 15", "So every message 0..2^K-1 combined with every error mask of weight at most 2 is "
-            + "encrypted and then exactly recovered, together with the error positions");
         for (Reference r : REFERENCES) {
             for (int message = 0; message <= GREATEST; message++) {
                 for (int mask : Inputs.errorMasks()) {
@@ -200,7 +200,6 @@ public final class CipherEdgesTest {
     }
 
     private static void roundTripsAfterOtherCalls() {
-        due.sentence("Promise 15", "Round trip: take any sequence of calls on a fresh object");
         for (Reference r : REFERENCES) {
             GoppaCrypt x = r.fresh();
             List<Calls.Call> calls = Calls.all();
@@ -216,8 +215,6 @@ public final class CipherEdgesTest {
     }
 
     private static void roundTripsWithoutSetters() {
-        due.sentence("Promise 15", "the values set by the last accepted setMessage and setErrors, or the initial 0 if "
-            + "there was none");
         for (Reference r : REFERENCES) {
             GoppaCrypt x = r.fresh();
             x.encrypt();
@@ -255,22 +252,18 @@ public final class CipherEdgesTest {
     }
 
     private static void noResultsBeforeDecrypt() {
-        due.sentence("Promise 16", "Both answer -1 before any decrypt()");
         for (Reference r : REFERENCES) {
             resultsStayFrom(State.fresh(r));
         }
     }
 
     private static void noResultsAfterFailure() {
-        due.sentence("Promise 16", "and after a failed one");
         for (Reference r : REFERENCES) {
             resultsStayFrom(State.afterFailure(r));
         }
     }
 
     private static void resultsStay() {
-        due.sentence("Promise 16", "After a successful decrypt(), they answer the values that call set, until the "
-            + "next decrypt(). No call other than decrypt() changes these values");
         for (Reference r : REFERENCES) {
             resultsStayFrom(State.afterSuccess(r));
             resultsStayFrom(State.fresh(r).afterDecrypt());
@@ -278,7 +271,6 @@ public final class CipherEdgesTest {
     }
 
     private static void askingForResultsChangesNothing() {
-        due.sentence("Promise 16", "Neither changes anything");
         Calls.changeNothing(due, "decodedMessage");
         Calls.changeNothing(due, "foundErrors");
     }

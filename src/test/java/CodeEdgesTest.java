@@ -8,44 +8,48 @@ public final class CodeEdgesTest {
     private static final int MAX = Inputs.MAX;
 
     public static void main(String[] args) {
-        dimensionIsTheCodes();
-        dimensionNeverChanges();
-        wordsLieFarApart();
-        checkRowsInside();
-        checkRowsOutside();
-        checkRowsHoldTheirPosition();
-        infoPositionsInside();
-        infoPositionsOutside();
-        infoPositionsAreTheRest();
+        due.sentence("Promise 8", "dimension() answers K, the number with |C| = 2^K",
+            CodeEdgesTest::dimensionIsTheCodes);
+        due.sentence("Promise 8", "It changes nothing", () -> Calls.changeNothing(due, "dimension"));
+        due.sentence("Terms, promise 8", "K is fixed by the constructor and never changes: it is the same "
+            + "after every call", CodeEdgesTest::dimensionNeverChanges);
+        due.sentence("Terms", "Two distinct words of C differ in at least 5 positions",
+            CodeEdgesTest::wordsLieFarApart);
+        due.sentence("Promise 9", "checkRow(i) answers r_i if 0 <= i < 12-K", CodeEdgesTest::checkRowsInside);
+        due.sentence("Promise 9", "For every other int i it answers -1", CodeEdgesTest::checkRowsOutside);
+        due.sentence("Promise 9", "It changes nothing", () -> Calls.changeNothing(due, "checkRow"));
+        due.sentence("Promise 9", "Each answered row is a nonzero word of D, and position p_i is set in it",
+            CodeEdgesTest::checkRowsHoldTheirPosition);
+        due.sentence("Promise 10", "infoPosition(i) answers q_i if 0 <= i < K", CodeEdgesTest::infoPositionsInside);
+        due.sentence("Promise 10", "For every other int i it answers -1", CodeEdgesTest::infoPositionsOutside);
+        due.sentence("Promise 10", "It changes nothing", () -> Calls.changeNothing(due, "infoPosition"));
+        due.sentence("Promise 10", "The answered positions lie in 0..11, strictly increase with i, and are "
+            + "exactly the positions that are not check positions", CodeEdgesTest::infoPositionsAreTheRest);
         due.end();
     }
 
     private static void dimensionIsTheCodes() {
-        due.sentence("Promise 8", "dimension() answers K, the number with |C| = 2^K");
         for (Reference r : Inputs.references()) {
             due.is("2 to the dimension()" + r.name(), 1 << r.fresh().dimension(), r.code.size());
         }
-        due.sentence("Promise 8", "It changes nothing");
-        Calls.changeNothing(due, "dimension");
     }
 
     private static void dimensionNeverChanges() {
-        due.sentence("Terms, promise 8", "K is fixed by the constructor and never changes: it is the same after every call");
-        for (Reference r : Inputs.references()) {
-            GoppaCrypt throughAll = r.fresh();
+        for (State state : State.all()) {
+            int k = state.r().dimension();
+            GoppaCrypt throughAll = state.object();
             for (Calls.Call call : Calls.allBut("dimension")) {
-                GoppaCrypt x = r.fresh();
-                due.is("dimension()" + r.name(), x.dimension(), 4);
+                GoppaCrypt x = state.object();
+                due.is("dimension() before " + call.text() + state.name(), x.dimension(), k);
                 call.made().accept(x);
-                due.is("dimension() after " + call.text() + r.name(), x.dimension(), 4);
+                due.is("dimension() after " + call.text() + state.name(), x.dimension(), k);
                 call.made().accept(throughAll);
-                due.is("dimension() after all up to " + call.text() + r.name(), throughAll.dimension(), 4);
+                due.is("dimension() after all up to " + call.text() + state.name(), throughAll.dimension(), k);
             }
         }
     }
 
     private static void wordsLieFarApart() {
-        due.sentence("Terms", "Two distinct words of C differ in at least 5 positions");
         for (Reference r : Inputs.references()) {
             GoppaCrypt x = r.fresh();
             for (int m = 0; m < r.code.size(); m++) {
@@ -61,7 +65,6 @@ public final class CodeEdgesTest {
     }
 
     private static void checkRowsInside() {
-        due.sentence("Promise 9", "checkRow(i) answers r_i if 0 <= i < 12-K");
         due.is("checkRow(0) of (0, 2)", new GoppaCrypt(0, 2).checkRow(0), 513);
         for (Reference r : Inputs.references()) {
             int last = 11 - r.dimension();
@@ -71,18 +74,14 @@ public final class CodeEdgesTest {
     }
 
     private static void checkRowsOutside() {
-        due.sentence("Promise 9", "For every other int i it answers -1");
         for (Reference r : Inputs.references()) {
             GoppaCrypt x = r.fresh();
             int above = 12 - x.dimension();
             due.each("checkRow", r.name(), x::checkRow, -1, -1, above, above + 1, 11, 12, MIN, MAX);
         }
-        due.sentence("Promise 9", "It changes nothing");
-        Calls.changeNothing(due, "checkRow");
     }
 
     private static void checkRowsHoldTheirPosition() {
-        due.sentence("Promise 9", "Each answered row is a nonzero word of D, and position p_i is set in it");
         for (Reference r : Inputs.references()) {
             GoppaCrypt x = r.fresh();
             for (int i = 0; i < 12 - r.dimension(); i++) {
@@ -95,7 +94,6 @@ public final class CodeEdgesTest {
     }
 
     private static void infoPositionsInside() {
-        due.sentence("Promise 10", "infoPosition(i) answers q_i if 0 <= i < K");
         due.is("infoPosition(0) of (0, 2)", new GoppaCrypt(0, 2).infoPosition(0), 7);
         due.is("infoPosition(3) of (0, 2)", new GoppaCrypt(0, 2).infoPosition(3), 11);
         for (Reference r : Inputs.references()) {
@@ -107,19 +105,14 @@ public final class CodeEdgesTest {
     }
 
     private static void infoPositionsOutside() {
-        due.sentence("Promise 10", "For every other int i it answers -1");
         for (Reference r : Inputs.references()) {
             GoppaCrypt x = r.fresh();
             int above = x.dimension();
             due.each("infoPosition", r.name(), x::infoPosition, -1, -1, above, above + 1, 11, 12, MIN, MAX);
         }
-        due.sentence("Promise 10", "It changes nothing");
-        Calls.changeNothing(due, "infoPosition");
     }
 
     private static void infoPositionsAreTheRest() {
-        due.sentence("Promise 10", "The answered positions lie in 0..11, strictly increase with i, and are exactly "
-            + "the positions that are not check positions");
         for (Reference r : Inputs.references()) {
             GoppaCrypt x = r.fresh();
             List<Integer> rest = new ArrayList<>();

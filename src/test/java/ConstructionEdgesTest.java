@@ -7,32 +7,46 @@ public final class ConstructionEdgesTest {
     private static final int MAX = Inputs.MAX;
 
     public static void main(String[] args) {
-        everyInt();
-        polyBelow();
-        polyAbove();
-        shiftBelow();
-        shiftAbove();
-        endsOfInt();
-        firstCandidateItself();
-        nextCandidate();
-        lastCandidates();
-        candidateAlwaysExists();
-        messageStarts();
-        errorMaskStarts();
-        receivedWordStarts();
-        decodedMessageStarts();
-        foundErrorsStart();
-        identicalObjects();
-        goppaPolyInRange();
-        supportInside();
-        supportWrapsAround();
-        supportIsDistinct();
-        supportOutside();
+        due.sentence("Promise 1", "accepts every int value of both arguments. It never fails",
+            ConstructionEdgesTest::everyInt);
+        due.sentence("Promise 1", "poly: A value below 0 becomes 0", ConstructionEdgesTest::polyBelow);
+        due.sentence("Promise 1", "poly: a value above 255 becomes 255", ConstructionEdgesTest::polyAbove);
+        due.sentence("Promise 1", "shift: A value below 0 becomes 0", ConstructionEdgesTest::shiftBelow);
+        due.sentence("Promise 1", "shift: a value above 15 becomes 15", ConstructionEdgesTest::shiftAbove);
+        due.sentence("Promise 1", "This holds for every int, including Integer.MIN_VALUE and Integer.MAX_VALUE",
+            ConstructionEdgesTest::endsOfInt);
+        due.sentence("Promise 1", "Candidates c are tried in this order: the clamped poly, ..",
+            ConstructionEdgesTest::firstCandidateItself);
+        due.sentence("Promise 1", ".. then c+1, and so on: the first candidate is taken that has no root",
+            ConstructionEdgesTest::nextCandidate);
+        due.sentence("Promise 1", "with 255 followed by 0 (never needed: what is taken at the last candidates)",
+            ConstructionEdgesTest::lastCandidates);
+        due.sentence("Promise 1", "Such a candidate always exists", ConstructionEdgesTest::candidateAlwaysExists);
+        due.sentence("Promise 1", "Right after construction: message = 0", ConstructionEdgesTest::messageStarts);
+        due.sentence("Promise 1", "Right after construction: error mask = 0", ConstructionEdgesTest::errorMaskStarts);
+        due.sentence("Promise 1", "Right after construction: received word = 0",
+            ConstructionEdgesTest::receivedWordStarts);
+        due.sentence("Promise 1", "Right after construction: decoded message = -1",
+            ConstructionEdgesTest::decodedMessageStarts);
+        due.sentence("Promise 1", "Right after construction: found errors = -1",
+            ConstructionEdgesTest::foundErrorsStart);
+        due.sentence("Promise 1", "Two objects built from arguments that clamp to the same values have "
+            + "identical A, B, SHIFT and everything derived from them", ConstructionEdgesTest::identicalObjects);
+        due.sentence("Promise 2", "goppaPoly() answers A*16 + B, a value in 0..255",
+            ConstructionEdgesTest::goppaPolyInRange);
+        due.sentence("Promise 2", "It changes nothing", () -> Calls.changeNothing(due, "goppaPoly"));
+        due.sentence("Promise 3", "support(j) answers alpha_j = (SHIFT + j) mod 16 if 0 <= j <= 11",
+            ConstructionEdgesTest::supportInside);
+        due.sentence("Promise 3", "(SHIFT + j) mod 16, where SHIFT + j is 15 and 16",
+            ConstructionEdgesTest::supportWrapsAround);
+        due.sentence("Terms", "These are 12 distinct field elements", ConstructionEdgesTest::supportIsDistinct);
+        due.sentence("Promise 3", "For every other int j, negative or above 11, it answers -1",
+            ConstructionEdgesTest::supportOutside);
+        due.sentence("Promise 3", "It changes nothing", () -> Calls.changeNothing(due, "support"));
         due.end();
     }
 
     private static void everyInt() {
-        due.sentence("Promise 1", "accepts every int value of both arguments. It never fails");
         for (int bit = 0; bit < 32; bit++) {
             for (int near = -1; near <= 1; near++) {
                 int value = (1 << bit) + near;
@@ -69,28 +83,23 @@ public final class ConstructionEdgesTest {
 
     // -231 is 25 and -4 is 252 in their lowest eight bits, and both of those stand for themselves.
     private static void polyBelow() {
-        due.sentence("Promise 1", "poly: A value below 0 becomes 0");
         due.each("goppaPoly() of poly ", "", ConstructionEdgesTest::polyTaken, 24, 0, -1, -4, -231, -255, -256, -257);
     }
 
     // 281 is 25 and 508 is 252 in their lowest eight bits.
     private static void polyAbove() {
-        due.sentence("Promise 1", "poly: a value above 255 becomes 255");
         due.each("goppaPoly() of poly ", "", ConstructionEdgesTest::polyTaken, 255, 255, 256, 257, 281, 508, 511, 512);
     }
 
     private static void shiftBelow() {
-        due.sentence("Promise 1", "shift: A value below 0 becomes 0");
         due.each("support(0) of shift ", "", ConstructionEdgesTest::firstSupport, 0, 0, -1, -2, -15, -16, -17);
     }
 
     private static void shiftAbove() {
-        due.sentence("Promise 1", "shift: a value above 15 becomes 15");
         due.each("support(0) of shift ", "", ConstructionEdgesTest::firstSupport, 15, 15, 16, 17, 30, 31, 32);
     }
 
     private static void endsOfInt() {
-        due.sentence("Promise 1", "This holds for every int, including Integer.MIN_VALUE and Integer.MAX_VALUE");
         due.is("goppaPoly() of the least int", polyTaken(MIN), 24);
         due.is("goppaPoly() of the greatest int", polyTaken(MAX), 255);
         due.is("support(0) of the least int", firstSupport(MIN), 0);
@@ -102,14 +111,12 @@ public final class ConstructionEdgesTest {
     }
 
     private static void firstCandidateItself() {
-        due.sentence("Promise 1", "Candidates c are tried in this order: the clamped poly, ..");
         for (int poly : Inputs.rootlessPolys()) {
             due.is("goppaPoly() of poly " + poly, polyTaken(poly), poly);
         }
     }
 
     private static void nextCandidate() {
-        due.sentence("Promise 1", ".. then c+1, and so on: the first candidate is taken that has no root");
         List<Integer> rootless = Inputs.rootlessPolys();
         int before = -1;
         for (int next : rootless) {
@@ -124,7 +131,6 @@ public final class ConstructionEdgesTest {
     // By hand: with z = 15*y, x^2+15x+B has no root just when B/10 is 8 or above (its trace is then 1);
     // for B = 12, 13, 14, 15 that is 15, 3, 4, 8. So 255 has no root, and no search goes on from it to 0.
     private static void lastCandidates() {
-        due.sentence("Promise 1", "with 255 followed by 0 (never needed: what is taken at the last candidates)");
         due.is("goppaPoly() of poly 252", polyTaken(252), 252);
         due.is("goppaPoly() of poly 253", polyTaken(253), 255);
         due.is("goppaPoly() of poly 254", polyTaken(254), 255);
@@ -132,7 +138,6 @@ public final class ConstructionEdgesTest {
     }
 
     private static void candidateAlwaysExists() {
-        due.sentence("Promise 1", "Such a candidate always exists");
         for (int poly = 0; poly < 256; poly++) {
             int taken = polyTaken(poly);
             due.holds(taken + ", taken for poly " + poly + ", has no root", !Reference.hasRoot(taken / 16, taken % 16));
@@ -140,7 +145,6 @@ public final class ConstructionEdgesTest {
     }
 
     private static void messageStarts() {
-        due.sentence("Promise 1", "Right after construction: message = 0");
         for (Reference r : Inputs.references()) {
             GoppaCrypt x = r.fresh();
             x.setErrors(2049);
@@ -151,7 +155,6 @@ public final class ConstructionEdgesTest {
     }
 
     private static void errorMaskStarts() {
-        due.sentence("Promise 1", "Right after construction: error mask = 0");
         for (Reference r : Inputs.references()) {
             GoppaCrypt x = r.fresh();
             x.setMessage(15);
@@ -163,7 +166,6 @@ public final class ConstructionEdgesTest {
     }
 
     private static void receivedWordStarts() {
-        due.sentence("Promise 1", "Right after construction: received word = 0");
         for (Reference r : Inputs.references()) {
             GoppaCrypt x = r.fresh();
             x.setMessage(15);
@@ -175,22 +177,18 @@ public final class ConstructionEdgesTest {
     }
 
     private static void decodedMessageStarts() {
-        due.sentence("Promise 1", "Right after construction: decoded message = -1");
         for (Reference r : Inputs.references()) {
             due.is("decodedMessage()" + r.name(), r.fresh().decodedMessage(), -1);
         }
     }
 
     private static void foundErrorsStart() {
-        due.sentence("Promise 1", "Right after construction: found errors = -1");
         for (Reference r : Inputs.references()) {
             due.is("foundErrors()" + r.name(), r.fresh().foundErrors(), -1);
         }
     }
 
     private static void identicalObjects() {
-        due.sentence("Promise 1", "Two objects built from arguments that clamp to the same values have identical "
-            + "A, B, SHIFT and everything derived from them");
         identical(new int[][] {{0, 0}, {-1, -1}, {MIN, MIN}, {0, -1}, {-1, 0}});
         identical(new int[][] {{255, 15}, {256, 16}, {MAX, MAX}, {255, 16}, {256, 15}});
         identical(new int[][] {{0, 15}, {-1, 16}, {MIN, MAX}});
@@ -208,18 +206,14 @@ public final class ConstructionEdgesTest {
     }
 
     private static void goppaPolyInRange() {
-        due.sentence("Promise 2", "goppaPoly() answers A*16 + B, a value in 0..255");
         for (int poly : new int[] {MIN, -1, 0, 1, 24, 25, 254, 255, 256, MAX}) {
             int answer = polyTaken(poly);
             due.holds("goppaPoly() of poly " + poly + " is in 0..255, which", answer >= 0 && answer <= 255);
             due.is("goppaPoly() of poly " + poly, answer, new Reference(poly, 0).goppaPoly());
         }
-        due.sentence("Promise 2", "It changes nothing");
-        Calls.changeNothing(due, "goppaPoly");
     }
 
     private static void supportInside() {
-        due.sentence("Promise 3", "support(j) answers alpha_j = (SHIFT + j) mod 16 if 0 <= j <= 11");
         due.is("support(0) of shift 0", new GoppaCrypt(0, 0).support(0), 0);
         due.is("support(11) of shift 0", new GoppaCrypt(0, 0).support(11), 11);
         due.is("support(0) of shift 15", new GoppaCrypt(0, 15).support(0), 15);
@@ -227,7 +221,6 @@ public final class ConstructionEdgesTest {
     }
 
     private static void supportWrapsAround() {
-        due.sentence("Promise 3", "(SHIFT + j) mod 16, where SHIFT + j is 15 and 16");
         for (int shift = 4; shift < 16; shift++) {
             GoppaCrypt x = new GoppaCrypt(0, shift);
             due.is("support(" + (15 - shift) + ") of shift " + shift, x.support(15 - shift), 15);
@@ -238,7 +231,6 @@ public final class ConstructionEdgesTest {
     }
 
     private static void supportIsDistinct() {
-        due.sentence("Terms", "These are 12 distinct field elements");
         for (int shift = 0; shift < 16; shift++) {
             GoppaCrypt x = new GoppaCrypt(0, shift);
             int seen = 0;
@@ -250,12 +242,9 @@ public final class ConstructionEdgesTest {
     }
 
     private static void supportOutside() {
-        due.sentence("Promise 3", "For every other int j, negative or above 11, it answers -1");
         for (int shift = 0; shift < 16; shift++) {
             GoppaCrypt x = new GoppaCrypt(0, shift);
             due.each("support", " of shift " + shift, x::support, -1, -1, 12, MIN, MAX);
         }
-        due.sentence("Promise 3", "It changes nothing");
-        Calls.changeNothing(due, "support");
     }
 }

@@ -39,7 +39,8 @@ public final class ConstructionTest {
         while (Reference.hasRoot(lastBefore / 16, lastBefore % 16)) {
             lastBefore--;
         }
-        due.is("goppaPoly() of the last rootless poly before 255", new GoppaCrypt(lastBefore, 0).goppaPoly(), lastBefore);
+        due.is("goppaPoly() of the last rootless poly before 255",
+            new GoppaCrypt(lastBefore, 0).goppaPoly(), lastBefore);
         for (int poly = lastBefore + 1; poly < 256; poly++) {
             due.is("goppaPoly() of poly " + poly, new GoppaCrypt(poly, 0).goppaPoly(), 255);
         }

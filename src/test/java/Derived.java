@@ -19,6 +19,18 @@ final class Derived {
         return answers;
     }
 
+    /** What asked() should be. */
+    static List<Integer> due(Reference r) {
+        List<Integer> answers = new ArrayList<>(List.of(r.goppaPoly(), r.dimension()));
+        add(answers, r::support, 12);
+        add(answers, i -> i < r.checkRows.size() ? r.checkRows.get(i) : -1, 12);
+        add(answers, i -> i < r.infoPositions.size() ? r.infoPositions.get(i) : -1, 12);
+        add(answers, p -> r.inverse[p], 256);
+        add(answers, p -> r.squareRoot[p], 256);
+        add(answers, w -> r.syndrome[w], 4096);
+        return answers;
+    }
+
     /** Encoding and extraction as well, which only calls that change the state can show. */
     static List<Integer> all(GoppaCrypt x) {
         List<Integer> answers = asked(x);

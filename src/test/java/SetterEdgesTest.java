@@ -5,13 +5,13 @@ public final class SetterEdgesTest {
     private static final Due due = new Due("SetterEdgesTest");
     private static final int MIN = Inputs.MIN;
     private static final int MAX = Inputs.MAX;
-    private static final int[] TOO_HEAVY = {7, 2051, 3584, 4095, 2730, 1 | 32 | 2048};
+    private static final int[] TOO_HEAVY = {7, 2051, 2081, 3584, 2730, 4095};
 
-    /** A setter of an object, and the state that it makes of one when it accepts the value. */
     private interface Setter {
         IntPredicate of(GoppaCrypt x);
     }
 
+    /** The state that an accepted value leads to. */
     private interface Change {
         State of(State before, int value);
     }
@@ -21,11 +21,29 @@ public final class SetterEdgesTest {
     private static final Setter RECEIVED = x -> x::setReceived;
 
     public static void main(String[] args) {
-        messages();
-        errorMasks();
-        acceptedErrorMasks();
-        receivedWords();
-        refusedCalls();
+        due.sentence("Promise 11", "If m < 0 .. it answers false (refused) and changes nothing",
+            SetterEdgesTest::messagesBelow);
+        due.sentence("Promise 11", "If .. m >= 2^K, it answers false (refused) and changes nothing",
+            SetterEdgesTest::messagesAbove);
+        due.sentence("Promise 11", "Otherwise it sets message = m and answers true; nothing else changes",
+            SetterEdgesTest::messagesInside);
+        due.sentence("Promise 12", "If e < 0 .. it answers false (refused) and changes nothing",
+            SetterEdgesTest::errorMasksBelow);
+        due.sentence("Promise 12", "If .. e > 4095 .. it answers false (refused) and changes nothing",
+            SetterEdgesTest::errorMasksAbove);
+        due.sentence("Promise 12", "If .. the weight of e is above 2, it answers false (refused) and changes "
+            + "nothing", SetterEdgesTest::errorMasksTooHeavy);
+        due.sentence("Promise 12", "Otherwise it sets error mask = e and answers true; nothing else changes",
+            SetterEdgesTest::errorMasksInside);
+        due.sentence("Promise 12", "Accepted values are exactly the words of weight 0, 1 or 2 (79 values)",
+            SetterEdgesTest::acceptedErrorMasks);
+        due.sentence("Promise 14", "If w < 0 .. it answers false (refused) and changes nothing",
+            SetterEdgesTest::receivedWordsBelow);
+        due.sentence("Promise 14", "If .. w > 4095, it answers false (refused) and changes nothing",
+            SetterEdgesTest::receivedWordsAbove);
+        due.sentence("Promise 14", "Otherwise it sets received word = w and answers true. Nothing else changes",
+            SetterEdgesTest::receivedWordsInside);
+        due.sentence("Terms", "A refused call answers as stated and changes nothing", SetterEdgesTest::refusedCalls);
         due.end();
     }
 
@@ -53,28 +71,35 @@ public final class SetterEdgesTest {
         after.shown(due, "after " + method + "(" + value + ")" + before.name(), x);
     }
 
-    private static void messages() {
-        due.sentence("Promise 11", "If m < 0 .. it answers false (refused) and changes nothing");
+    private static void messagesBelow() {
         refused("setMessage", MESSAGE, -1, -2, -16, MIN, MIN + 1);
-        due.sentence("Promise 11", "If .. m >= 2^K, it answers false (refused) and changes nothing");
+    }
+
+    private static void messagesAbove() {
         refused("setMessage", MESSAGE, 16, 17, 31, 32, 4095, 4096, MAX - 1, MAX);
-        due.sentence("Promise 11", "Otherwise it sets message = m and answers true; nothing else changes");
+    }
+
+    private static void messagesInside() {
         accepted("setMessage", MESSAGE, State::withMessage, 0, 1, 14, 15);
     }
 
-    private static void errorMasks() {
-        due.sentence("Promise 12", "If e < 0 .. it answers false (refused) and changes nothing");
+    private static void errorMasksBelow() {
         refused("setErrors", ERRORS, -1, -2, -2048, -4096, MIN, MIN + 1);
-        due.sentence("Promise 12", "If .. e > 4095 .. it answers false (refused) and changes nothing");
+    }
+
+    private static void errorMasksAbove() {
         refused("setErrors", ERRORS, 4096, 4097, 8192, 65536, 65537, 1 << 30, MAX - 1, MAX);
-        due.sentence("Promise 12", "If .. the weight of e is above 2, it answers false (refused) and changes nothing");
+    }
+
+    private static void errorMasksTooHeavy() {
         refused("setErrors", ERRORS, TOO_HEAVY);
-        due.sentence("Promise 12", "Otherwise it sets error mask = e and answers true; nothing else changes");
+    }
+
+    private static void errorMasksInside() {
         accepted("setErrors", ERRORS, State::withErrors, 0, 1, 2048, 3, 3072, 2049);
     }
 
     private static void acceptedErrorMasks() {
-        due.sentence("Promise 12", "Accepted values are exactly the words of weight 0, 1 or 2 (79 values)");
         for (Reference r : Inputs.references()) {
             GoppaCrypt x = r.fresh();
             int[] acceptedOfWeight = new int[33];
@@ -92,12 +117,15 @@ public final class SetterEdgesTest {
         }
     }
 
-    private static void receivedWords() {
-        due.sentence("Promise 14", "If w < 0 .. it answers false (refused) and changes nothing");
+    private static void receivedWordsBelow() {
         refused("setReceived", RECEIVED, -1, -2, -4096, MIN, MIN + 1);
-        due.sentence("Promise 14", "If .. w > 4095, it answers false (refused) and changes nothing");
+    }
+
+    private static void receivedWordsAbove() {
         refused("setReceived", RECEIVED, 4096, 4097, 8191, 65536, MAX - 1, MAX);
-        due.sentence("Promise 14", "Otherwise it sets received word = w and answers true. Nothing else changes");
+    }
+
+    private static void receivedWordsInside() {
         accepted("setReceived", RECEIVED, State::withReceived, 0, 1, 2048, 4094, 4095);
         greatestWordIsKept();
     }
@@ -118,7 +146,6 @@ public final class SetterEdgesTest {
     }
 
     private static void refusedCalls() {
-        due.sentence("Terms", "A refused call answers as stated and changes nothing");
         for (State before : State.all()) {
             GoppaCrypt x = before.object();
             refusedCallsAnswer(before.name(), x);
@@ -127,18 +154,18 @@ public final class SetterEdgesTest {
     }
 
     private static void refusedCallsAnswer(String name, GoppaCrypt x) {
-        int[] none = {-1, 4096, MIN, MAX};
-        due.each("support", name, x::support, -1, none);
-        due.each("ringInverse", name, x::ringInverse, -1, none);
-        due.each("ringSqrt", name, x::ringSqrt, -1, none);
-        due.each("syndrome", name, x::syndrome, -1, none);
-        due.each("checkRow", name, x::checkRow, -1, none);
-        due.each("infoPosition", name, x::infoPosition, -1, none);
-        due.each("fieldMul by 1 of ", name, a -> x.fieldMul(a, 1), -1, none);
-        due.each("fieldMul of 1 by ", name, b -> x.fieldMul(1, b), -1, none);
-        due.each("setMessage", name, x::setMessage, false, none);
-        due.each("setErrors", name, x::setErrors, false, none);
+        int[] outside = {-1, 4096, MIN, MAX};
+        due.each("support", name, x::support, -1, outside);
+        due.each("ringInverse", name, x::ringInverse, -1, outside);
+        due.each("ringSqrt", name, x::ringSqrt, -1, outside);
+        due.each("syndrome", name, x::syndrome, -1, outside);
+        due.each("checkRow", name, x::checkRow, -1, outside);
+        due.each("infoPosition", name, x::infoPosition, -1, outside);
+        due.each("fieldMul by 1 of ", name, a -> x.fieldMul(a, 1), -1, outside);
+        due.each("fieldMul of 1 by ", name, b -> x.fieldMul(1, b), -1, outside);
+        due.each("setMessage", name, x::setMessage, false, outside);
+        due.each("setErrors", name, x::setErrors, false, outside);
         due.each("setErrors", name, x::setErrors, false, TOO_HEAVY);
-        due.each("setReceived", name, x::setReceived, false, none);
+        due.each("setReceived", name, x::setReceived, false, outside);
     }
 }

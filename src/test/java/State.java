@@ -42,6 +42,11 @@ record State(Reference r, int message, int errors, int received, int decoded, in
         return new State(r, message, errors, received, r.decodedFrom(received), r.foundIn(received));
     }
 
+    /** The word that encrypt() makes. */
+    int encrypted() {
+        return r.codewords[message] ^ errors;
+    }
+
     String name() {
         return r.name() + " with message " + message + ", errors " + errors
             + ", received " + received + ", decoded " + decoded + ", found " + found;
@@ -73,6 +78,6 @@ record State(Reference r, int message, int errors, int received, int decoded, in
         results(due, when, x);
         due.is("decrypt() " + when, x.decrypt(), r.weightIn(received));
         afterDecrypt().results(due, "after decrypt() " + when, x);
-        due.is("encrypt() " + when, x.encrypt(), r.codewords[message] ^ errors);
+        due.is("encrypt() " + when, x.encrypt(), encrypted());
     }
 }
